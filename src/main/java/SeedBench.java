@@ -298,7 +298,8 @@ public final class SeedBench {
         if (guide == null) {
             guide = new Guide();
         }
-        return guide.lead(rings[0], rings[1], book);
+        guide.measure(rings[0], rings[1], book);
+        return guide.lead(rings[0], book);
     }
 
     public int goes(int i) {
@@ -535,6 +536,7 @@ public final class SeedBench {
         final int[] table = new int[CELLS];
         final long[] sizes = new long[MOST_PLACES];
         final Share[] letters = new Share[MOST_PLACES];
+        private final int[] to = new int[MOST_PLACES];
 
         Seed() {
             for (int i = 0; i < MOST_PLACES; i++) {
@@ -575,7 +577,6 @@ public final class SeedBench {
                 return false;
             }
             // Letters of a seed never are alike, so there is one order of places at most to look at.
-            int[] to = new int[MOST_PLACES];
             for (int i = 0; i < places; i++) {
                 to[i] = other.placeOf(letters[i]);
                 if (to[i] == NONE) {
@@ -594,12 +595,12 @@ public final class SeedBench {
             return NONE;
         }
 
-        /** Is the table the same as the one that begins at a cell of others, where place i stands as to[i]? */
-        boolean hasTable(int[] others, int begin, int[] to) {
+        /** Is the table the same as the one that begins at a cell of others, where place i stands at seats[i]? */
+        boolean hasTable(int[] others, int first, int[] seats) {
             for (int i = 0; i < places + held; i++) {
-                int row = i < places ? to[i] : i;
+                int row = i < places ? seats[i] : i;
                 for (int j = 0; j < places; j++) {
-                    if (table[i * MOST_PLACES + j] != others[begin + row * MOST_PLACES + to[j]]) {
+                    if (table[i * MOST_PLACES + j] != others[first + row * MOST_PLACES + seats[j]]) {
                         return false;
                     }
                 }
@@ -664,7 +665,7 @@ public final class SeedBench {
             int members = 1;
             group[0] = first;
             sizes[first] = 1;
-            for (int at = 0; at < members; at++) {
+            for (int at = 0; at < members && at < MOST_PLACES; at++) {
                 int i = group[at];
                 for (int j = 0; j < places; j++) {
                     if (sizes[j] == 0 && table[i * MOST_PLACES + j] != 0) {
@@ -896,7 +897,7 @@ public final class SeedBench {
             if (!enterFirst(first)) {
                 return SPENT;
             }
-            for (int r = 0; r < rows; r++) {
+            for (int r = 0; r < rows && r < MOST_SEEDS; r++) {
                 for (int k = 0; k < at.places; k++) {
                     if (explored[r * MOST_PLACES + k]) {
                         continue;
@@ -1123,7 +1124,7 @@ public final class SeedBench {
             book.clear();
             pack(places);
             book.enter(first, second, NONE, NONE);
-            for (int at = 0; at < book.entries; at++) {
+            for (int at = 0; at < book.entries && at < MOST_TABLES; at++) {
                 for (int k = 0; k < places; k++) {
                     unpack(book, at, places);
                     turnTable(now, places, places, k);
@@ -1206,8 +1207,8 @@ public final class SeedBench {
         long fences;
 
         static long bit(int a, int b) {
-            int lesser = Math.min(a, b);
-            int greater = Math.max(a, b);
+            int lesser = a < b ? a : b;
+            int greater = a < b ? b : a;
             return 1L << lesser * (2 * MOST_CORNERS - 1 - lesser) / 2 + greater - lesser - 1;
         }
 
@@ -1355,24 +1356,15 @@ public final class SeedBench {
         final int[] gone = new int[MOST_FLIPS];
         private final Ring ring = new Ring();
 
-        int lead(Ring start, Ring end, Book book) {
-            ring.corners = start.corners;
-            measure(start.fences, end.fences, book);
-            int entry = book.find(start.fences, 0);
-            int least = entry < 0 ? 0 : Math.min(book.note[entry], MOST_FLIPS);
-            ring.fences = start.fences;
-            for (int i = 0; i < least; i++) {
-                gone[i] = goNearer(least - i - 1, book);
-            }
-            flips = least;
-            return least;
-        }
-
         /** Enters cuttings with the number of flips between them and the end, from it on, till the start is met. */
-        private void measure(long start, long end, Book book) {
+        void measure(Ring start, Ring end, Book book) {
+            ring.corners = end.corners;
             book.clear();
-            book.enter(end, 0, NONE, 0);
-            for (int at = 0; at < book.entries && book.find(start, 0) == NONE; at++) {
+            book.enter(end.fences, 0, NONE, 0);
+            for (int at = 0; at < book.entries && at < MOST_TABLES; at++) {
+                if (book.find(start.fences, 0) != NONE) {
+                    return;
+                }
                 ring.fences = book.firsts[at];
                 for (int i = 0; i < ring.corners - 3; i++) {
                     long next = flipped(ring.fenceAt(i));
@@ -1381,6 +1373,18 @@ public final class SeedBench {
                     }
                 }
             }
+        }
+
+        /** The way to the end that was measured: how many flips. */
+        int lead(Ring start, Book book) {
+            int entry = book.find(start.fences, 0);
+            int least = entry < 0 ? 0 : Math.min(book.note[entry], MOST_FLIPS);
+            ring.fences = start.fences;
+            for (int i = 0; i < least; i++) {
+                gone[i] = goNearer(least - i - 1, book);
+            }
+            flips = least;
+            return least;
         }
 
         private long flipped(int fence) {
