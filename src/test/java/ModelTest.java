@@ -17,7 +17,7 @@ public final class ModelTest {
     }
 
     public static void main(String[] args) {
-        int runs = args.length > 0 ? Integer.parseInt(args[0]) : 300;
+        int runs = args.length > 0 ? Integer.parseInt(args[0]) : 600;
         ModelTest test = new ModelTest(args.length > 1 ? Long.parseLong(args[1]) : 20261116L);
         for (int r = 0; r < runs && test.check.wrong() == 0; r++) {
             test.oneRun(r);
@@ -106,7 +106,7 @@ public final class ModelTest {
             }
         } else {
             int most = kind == 2 ? 2 : 9;
-            int arrows = random.nextInt(2 * Math.min(n + 1, 8));
+            int arrows = random.nextInt(2 * Math.max(Math.min(n, 7), 0) + 1);
             for (int x = 0; x < arrows; x++) {
                 int i = random.nextInt(6);
                 int j = random.nextInt(6);

@@ -240,12 +240,34 @@ public final class PromisesTest {
         // (y + x5) to the 42nd, whose greatest number is 538257874440, and to the 43rd.
         due("6 great numbers", powers(9, 9, 9, 9, 6).turn(0), 44);
         due("6 too great numbers", powers(9, 9, 9, 9, 7).turn(0), -2);
-        // A table alone can be too much: 81 * 81 and more.
+        tableIsSpent();
         x = begun(2, 0, arrow(0, 1, 9, -9));
         due("6 turn(0)", x.turn(0), 2);
         due("6 turn(1)", x.turn(1), 11);
         due("6 turn(0)", x.turn(0), -2);
         due("6 turn(1)", x.turn(1), 1);
+    }
+
+    /** Shares stay small here: it is the table alone that comes to 9999, and to 10000. */
+    private void tableIsSpent() {
+        SeedBench x = begun(5, 1, arrow(1, 0, 1, -8), arrow(2, 0, -9, 1), arrow(3, 2, -6, 1), arrow(4, 3, -4, 1),
+                arrow(5, 0, 2), arrow(5, 1, 9), arrow(5, 2, -3), arrow(5, 3, -7), arrow(5, 4, -4));
+        for (int k : new int[] {4, 0, 3, 2}) {
+            due("6 turn", x.turn(k) > 0, true);
+        }
+        int most = 0;
+        for (int j = 0; j < 5; j++) {
+            most = Math.max(most, Math.abs(x.b(5, j)));
+        }
+        due("8 the greatest of the table", most, 9999);
+        x = begun(5, 1, arrow(1, 0, 7, -1), arrow(2, 1, 9, -1), arrow(3, 2, 9, -1), arrow(4, 3, 1, -2),
+                arrow(5, 0, -3), arrow(5, 1, 7), arrow(5, 2, 5), arrow(5, 3, 8), arrow(5, 4, 9));
+        for (int k : new int[] {1, 2, 4}) {
+            due("6 turn", x.turn(k) > 0, true);
+        }
+        due("6 10000 in the table", x.turn(3), -2);
+        due("6 nothing is turned", x.terms(3), 1);
+        due("6 nothing is turned", x.count(2), 3);
     }
 
     /** Place 0 amid the others, with a held one of its own for each of these. */
@@ -441,6 +463,9 @@ public final class PromisesTest {
         // It has 105, but a letter on the way has too many terms.
         due("15 F4", begun(4, 0, arrow(0, 1, 1, -1), arrow(1, 2, 2, -1), arrow(2, 3, 1, -1)).all(), -2);
         due("15 A2 A2 A2", begun(6, 0, arrow(0, 1, 1, -1), arrow(2, 3, 1, -1), arrow(4, 5, 1, -1)).all(), 125);
+        due("15 B2 A2 A2, as many as may be", begun(6, 0, arrow(0, 1, 2, -1), arrow(2, 3, 1, -1),
+                arrow(4, 5, 1, -1)).all(), 150);
+        due("15 G2 B3 has 160", begun(5, 0, arrow(0, 1, 3, -1), arrow(2, 3, 1, -1), arrow(3, 4, 1, -2)).all(), -2);
         due("15 apart", begun(6, 0).all(), 64);
         due("15 D5 has 182", begun(5, 0, arrow(0, 1, 1, -1), arrow(1, 2, 1, -1), arrow(2, 3, 1, -1),
                 arrow(2, 4, 1, -1)).all(), -2);
@@ -558,6 +583,18 @@ public final class PromisesTest {
         tell(x, 2, 0, arrow(0, 1, 1, -3));
         due("4 begin()", x.begin(), 0);
         due("21 G2", x.order(), 4);
+        x = begun(4, 0, arrow(1, 0, 1, -1), arrow(2, 1, 1, -1), arrow(3, 2, 2, -1));
+        tellRow(x, 3, 2, 0, 1);
+        due("21 40 times", x.order(), 40);
+        x = begun(4, 0, arrow(1, 0, -1, 1), arrow(2, 1, 1, -1), arrow(3, 2, -1, 1));
+        tellRow(x, 0, 2, 0, 1, 3, 0);
+        due("21 it would be 41 times", x.order(), -2);
+    }
+
+    private void tellRow(SeedBench x, int... places) {
+        for (int i = 0; i < places.length; i++) {
+            due("20 row", x.row(places.length, i, places[i]), true);
+        }
     }
 
     private SeedBench cut(int corners, int... fences) {
@@ -618,6 +655,10 @@ public final class PromisesTest {
         due("25 fences", x.ringOf(0, 100), 4);
         due("25 fences", x.ringOf(0, 101), 104);
         due("25 fences", x.ringOf(0, 102), 204);
+        for (int b = 6; b < 60; b++) {
+            due("24 no such corners", x.flip(0, 0, b), NONE);
+            due("24 no such corners", x.flip(0, b, 0), NONE);
+        }
         due("24 flip", x.flip(0, 0, 4), 105);
         due("25 a cutting", x.ringOf(0, 2), 1);
     }
@@ -739,6 +780,8 @@ public final class PromisesTest {
         cut(x, 0, 10, 2, 3, 4, 5, 6, 7, 8);
         due("29 ten corners", x.seed(0), false);
         due("29 nothing happens", x.count(0), 6);
+        due("29 the told table stays", x.begin(), 0);
+        due("29 the told table stays", x.count(0), 6);
         cut(x, 0, 4, 103);
         due("29 four corners", x.seed(0), true);
         due("30 places", x.count(0), 1);
