@@ -41,17 +41,21 @@ public final class SeedBench {
     private final Seed[] kept = new Seed[KEPT];
     private final int[] rowPlaces = new int[MOST_ROW];
     private int rowLength;
-    private Seed walker;
-    private Atlas atlas;
+    private final Seed walker = new Seed();
+    private final Atlas atlas = new Atlas();
     private int seedsOfAll;
-    private Book book;
-    private Kinds kinds;
+    private final Book book = new Book();
+    private final Kinds kinds = new Kinds();
     private final Ring[] rings = new Ring[RINGS];
-    private Guide guide;
+    private final Guide guide = new Guide();
 
+    /** Makes all that the calls will need, at its full size: all calls of a run share one room, so none makes more. */
     public SeedBench() {
         seed.start(1, 0, draft.table, draft.sizes);
         seed.sizes[0] = 1;
+        for (int k = 0; k < KEPT; k++) {
+            kept[k] = new Seed();
+        }
         for (int s = 0; s < RINGS; s++) {
             rings[s] = new Ring();
         }
@@ -154,15 +158,13 @@ public final class SeedBench {
         if (k < 0 || k >= KEPT) {
             return false;
         }
-        if (kept[k] == null) {
-            kept[k] = new Seed();
-        }
         kept[k].copyFrom(seed);
         return true;
     }
 
     public int same(int k) {
-        if (k < 0 || k >= KEPT || kept[k] == null) {
+        // A seed has a place at least, so what has none was never kept.
+        if (k < 0 || k >= KEPT || kept[k].places == 0) {
             return NONE;
         }
         return seed.isSameAs(kept[k]) ? 1 : 0;
@@ -171,32 +173,25 @@ public final class SeedBench {
     // ---- all seeds, finite kinds, rows of turns
 
     public int all() {
-        if (atlas == null) {
-            atlas = new Atlas();
-        }
         int seeds = atlas.explore(seed, mill);
         seedsOfAll = Math.max(seeds, 0);
         return seeds;
     }
 
     public long what(int i, int what) {
-        return atlas == null ? NONE : atlas.tell(i, what);
+        return atlas.tell(i, what);
     }
 
     public int finite() {
-        makeBook();
-        if (kinds == null) {
-            kinds = new Kinds();
-        }
         return kinds.judge(seed.table, seed.places, book);
     }
 
     public int step(int i) {
-        return kinds == null || i < 0 || i >= kinds.steps ? NONE : kinds.path[i];
+        return i < 0 || i >= kinds.steps ? NONE : kinds.path[i];
     }
 
     public int tables() {
-        return kinds == null ? 0 : kinds.seen;
+        return kinds.seen;
     }
 
     public boolean row(int n, int i, int k) {
@@ -219,9 +214,6 @@ public final class SeedBench {
             if (!isPlace(rowPlaces[i])) {
                 return NONE;
             }
-        }
-        if (walker == null) {
-            walker = new Seed();
         }
         walker.copyFrom(seed);
         for (int times = 1; times <= MOST_TIMES; times++) {
@@ -294,16 +286,12 @@ public final class SeedBench {
         if (!rings[0].isCut() || !rings[1].isCut() || rings[0].corners != rings[1].corners) {
             return NONE;
         }
-        makeBook();
-        if (guide == null) {
-            guide = new Guide();
-        }
         guide.measure(rings[0], rings[1], book);
         return guide.lead(rings[0], book);
     }
 
     public int goes(int i) {
-        return guide == null || i < 0 || i >= guide.flips ? NONE : guide.gone[i];
+        return i < 0 || i >= guide.flips ? NONE : guide.gone[i];
     }
 
     public boolean seed(int s) {
@@ -365,12 +353,6 @@ public final class SeedBench {
         return true;
     }
 
-    private void makeBook() {
-        if (book == null) {
-            book = new Book();
-        }
-    }
-
     /** What b(i, j) is behind a turn at k, i and j being others than k. */
     private static int turnedEntry(int[] table, int i, int j, int k) {
         int in = table[i * MOST_PLACES + k];
@@ -409,12 +391,12 @@ public final class SeedBench {
         }
     }
 
-    /** A sum of terms, the greater powers first. Its rows grow to what they must hold and are used again. */
+    /** A sum of terms, the greater powers first. Its rows have room for the most terms that there can be. */
     private static final class Share {
         int width;
         int length;
-        long[] numbers = new long[4];
-        int[] powers = new int[16];
+        final long[] numbers = new long[MOST_TERMS];
+        final int[] powers = new int[MOST_TERMS * MOST_ROWS];
 
         void clear(int variables) {
             width = variables;
@@ -423,7 +405,6 @@ public final class SeedBench {
 
         void becomeVariable(int v, int variables) {
             clear(variables);
-            reserve(1);
             length = 1;
             numbers[0] = 1;
             for (int u = 0; u < variables; u++) {
@@ -433,20 +414,9 @@ public final class SeedBench {
 
         void copyFrom(Share other) {
             clear(other.width);
-            reserve(other.length);
             length = other.length;
             System.arraycopy(other.numbers, 0, numbers, 0, length);
             System.arraycopy(other.powers, 0, powers, 0, length * width);
-        }
-
-        private void reserve(int count) {
-            if (numbers.length < count) {
-                numbers = Arrays.copyOf(numbers, Math.max(count, Math.min(2 * numbers.length, MOST_TERMS)));
-            }
-            int cells = count * width;
-            if (powers.length < cells) {
-                powers = Arrays.copyOf(powers, Math.max(cells, Math.min(2 * powers.length, MOST_TERMS * width)));
-            }
         }
 
         boolean hasVariable(int v) {
@@ -487,7 +457,6 @@ public final class SeedBench {
                 return NONE;
             }
             int to = -1 - at;
-            reserve(length + 1);
             System.arraycopy(numbers, to, numbers, to + 1, length - to);
             System.arraycopy(powers, to * width, powers, (to + 1) * width, (length - to) * width);
             numbers[to] = number;
@@ -892,6 +861,12 @@ public final class SeedBench {
         private final long[] toldSums = new long[MOST_LETTERS];
         private final int[] toldLeast = new int[MOST_LETTERS * MOST_ROWS];
 
+        Atlas() {
+            for (int i = 0; i < MOST_LETTERS; i++) {
+                letters[i] = new Share();
+            }
+        }
+
         /** How many seeds there are; SPENT. */
         int explore(Seed first, Mill mill) {
             if (!enterFirst(first)) {
@@ -950,9 +925,6 @@ public final class SeedBench {
             }
             if (found >= MOST_LETTERS) {
                 return NONE;
-            }
-            if (letters[found] == null) {
-                letters[found] = new Share();
             }
             letters[found].copyFrom(letter);
             found++;
