@@ -644,16 +644,12 @@ public final class SeedBench {
                     }
                 }
             }
-            long common = 0;
-            for (int at = 0; at < members; at++) {
-                common = greatestDivisor(common, sizes[group[at]]);
-            }
-            for (int at = 0; at < members && common > 0; at++) {
-                sizes[group[at]] /= common;
-            }
         }
 
-        /** The size of j by that of i; those of the group so far are made greater, if it would not be whole. */
+        /**
+         * The size of j by that of i; those of the group so far are made greater, if it would not be whole. What they
+         * are made greater by has no divisor in common with the new one, so that all together stay the least.
+         */
         private long sizeAlong(int i, int j, int members) {
             long above = sizes[i] * Math.abs(table[i * MOST_PLACES + j]);
             long below = Math.abs(table[j * MOST_PLACES + i]);
@@ -940,8 +936,6 @@ public final class SeedBench {
                 if (!enter()) {
                     return false;
                 }
-            } else {
-                seatsMap(r);
             }
             // Turned where the new letter stands it leads back to a seed of the row, and by the same sum N.
             explored[r * MOST_PLACES + to[k]] = true;
@@ -952,7 +946,6 @@ public final class SeedBench {
             lowAt = 0;
             highAt = 0;
             for (int i = 0; i < at.places; i++) {
-                to[i] = i;
                 if (seatsAt[i] < 64) {
                     lowAt |= 1L << seatsAt[i];
                 } else {
@@ -961,6 +954,7 @@ public final class SeedBench {
             }
         }
 
+        /** Which of the row is the same (where its letters stand there is known then); NONE if there is none. */
         private int rowOf() {
             for (int r = 0; r < rows; r++) {
                 if (lowLetters[r] == lowAt && highLetters[r] == highAt) {

@@ -1,11 +1,5 @@
 /** Each promise of the document with answers worked out by hand or known from books: ordinary, at edges, wrong. */
-public final class PromisesTest {
-    private static final int MIN = Integer.MIN_VALUE;
-    private static final int MAX = Integer.MAX_VALUE;
-    private static final int NONE = SeedBench.NONE;
-
-    private final Check check = new Check();
-
+public final class PromisesTest extends Bench {
     public static void main(String[] args) {
         PromisesTest test = new PromisesTest();
         test.newObject();
@@ -30,50 +24,6 @@ public final class PromisesTest {
         test.seedOfCutting();
         test.count();
         test.check.end();
-    }
-
-    private void due(String call, long got, long want) {
-        check.due(call, got, want);
-    }
-
-    private void due(String call, boolean got, boolean want) {
-        check.due(call, got, want);
-    }
-
-    /** Tells arrows as rows of i, j, b(i, j), b(j, i). */
-    private SeedBench told(int n, int m, int[]... arrows) {
-        SeedBench x = new SeedBench();
-        tell(x, n, m, arrows);
-        return x;
-    }
-
-    private void tell(SeedBench x, int n, int m, int[]... arrows) {
-        due("table", x.table(n, m), true);
-        for (int[] a : arrows) {
-            due("arrows", x.arrows(a[0], a[1], a[2]), true);
-            if (a.length > 3) {
-                due("arrows", x.arrows(a[1], a[0], a[3]), true);
-            }
-        }
-    }
-
-    private SeedBench begun(int n, int m, int[]... arrows) {
-        SeedBench x = told(n, m, arrows);
-        due("begin", x.begin(), 0);
-        return x;
-    }
-
-    private static int[] arrow(int... a) {
-        return a;
-    }
-
-    /** A chain 0 - 1 - 2 .. of single arrows. */
-    private SeedBench chain(int n) {
-        int[][] arrows = new int[n - 1][];
-        for (int i = 1; i < n; i++) {
-            arrows[i - 1] = arrow(i - 1, i, 1, -1);
-        }
-        return begun(n, 0, arrows);
     }
 
     private void newObject() {
@@ -589,25 +539,6 @@ public final class PromisesTest {
         x = begun(4, 0, arrow(1, 0, -1, 1), arrow(2, 1, 1, -1), arrow(3, 2, -1, 1));
         tellRow(x, 0, 2, 0, 1, 3, 0);
         due("21 it would be 41 times", x.order(), -2);
-    }
-
-    private void tellRow(SeedBench x, int... places) {
-        for (int i = 0; i < places.length; i++) {
-            due("20 row", x.row(places.length, i, places[i]), true);
-        }
-    }
-
-    private SeedBench cut(int corners, int... fences) {
-        SeedBench x = new SeedBench();
-        cut(x, 0, corners, fences);
-        return x;
-    }
-
-    private void cut(SeedBench x, int s, int corners, int... fences) {
-        due("ring", x.ring(s, corners), true);
-        for (int i = 0; i < fences.length; i++) {
-            due("fence", x.fence(s, fences[i] / 100, fences[i] % 100), i + 1);
-        }
     }
 
     private void ringAndFence() {
