@@ -87,6 +87,8 @@ public final class SpentEdgesTest extends Bench {
         done("1 and 192", x -> star(x, -7, -7, -2, 0, 0), 0, 193);
         done("196 and 1", x -> star(x, 6, 6, 3, 0, 0), 0, 197);
         done("198 and 1, by 9, 11 and 2", x -> elevenTerms(x, 8), 0, 199);
+        done("199 and 1, powers 0 to 198", x -> powers(x, new int[] {2, 3, 7, 9, 1}, 9, 9, 9, 9, 9), 0, 200);
+        spent("200 and 1, powers 0 to 199", x -> powers(x, new int[] {2, 3, 9, 8, 1}, 9, 9, 9, 8, 9), 0);
         spent("200 and 1", x -> star(x, 9, 9, 1, 0, 0), 0);
         spent("1 and 200", x -> star(x, -9, -9, -1, 0, 0), 0);
         spent("200 and 1 of four", x -> star(x, 4, 4, 3, 1, 0), 0);
@@ -148,13 +150,17 @@ public final class SpentEdgesTest extends Bench {
         due("30 " + name, x.count(2), before);
     }
 
-    /** Places 1 to 5 turned to (x0^a + y^a) / x, which come w times each in the turn of place 0. */
+    /**
+     * Places 1 to 5 turned to (x0^a + y^a) / x, which come w times each in the turn of place 0, in the one product or, if
+     * it is below 0, in the other one.
+     */
     private void powers(SeedBench x, int[] a, int... w) {
         x.table(6, 1);
         for (int i = 1; i <= 5; i++) {
+            int sign = Integer.signum(w[i - 1]);
             x.arrows(i, 0, w[i - 1]);
-            x.arrows(0, i, -a[i - 1]);
-            x.arrows(6, i, a[i - 1]);
+            x.arrows(0, i, -sign * a[i - 1]);
+            x.arrows(6, i, sign * a[i - 1]);
         }
         due("4 begin()", x.begin(), 0);
         for (int i = 1; i <= 5; i++) {
@@ -174,6 +180,8 @@ public final class SpentEdgesTest extends Bench {
         due("6 997501963088", x.turn(0), 79);
         due("10 the greatest number", greatest(x, 0), 997501963088L);
         spent("1000004571260", y -> powers(y, new int[] {1, 2, 2, 3, 2}, 9, 9, 9, 9, 8), 0);
+        spent("1000004571260 in the other product", y -> powers(y, new int[] {1, 2, 2, 3, 2}, -9, -9, -9, -9, -8), 0);
+        done("998868841084 in the other product", y -> powers(y, below, -9, -9, -9, -9, -9), 0, 164);
         spent("1002163417866", y -> powers(y, new int[] {1, 1, 3, 5, 7}, 9, 9, 9, 9, 9), 0);
         spent("4116715363800", y -> powers(y, new int[] {1, 1, 1, 1, 1}, 9, 9, 9, 9, 9), 0);
         done("538257874440", y -> powers(y, new int[] {1, 1, 1, 1, 1}, 9, 9, 9, 9, 6), 0, 44);
