@@ -320,8 +320,9 @@ public final class SeedEdgesTest extends Bench {
         nothingHappens("4 no table, turned", x -> turns(x, 0, 0, 0), x -> due("4 begin()", x.begin(), NONE));
         int[][][] faults = {
             {arrow(0, 0, 1)}, {arrow(2, 2, -9)}, {arrow(0, 1, 1)}, {arrow(2, 0, 9, 9)}, {arrow(1, 2, -1, -1)},
-            {arrow(0, 1, 1, -1), arrow(1, 2, 1, -1), arrow(2, 0, 1, -2)}};
-        int[] due = {1, 1, 2, 2, 2, 3};
+            {arrow(0, 1, 1, -1), arrow(1, 2, 1, -1), arrow(2, 0, 1, -2)},
+            {arrow(0, 1, 5, -5), arrow(1, 2, 6, -6), arrow(2, 0, 7, -8), arrow(3, 0, 9)}};
+        int[] due = {1, 1, 2, 2, 2, 3, 3};
         for (int f = 0; f < faults.length; f++) {
             int[][] arrows = faults[f];
             int want = due[f];
