@@ -33,6 +33,7 @@ public final class RingEdgesTest extends Bench {
         test.noSuchGoes();
         test.latestWay();
         test.nineCorners();
+        test.thirdsOfFans();
         test.noSeed();
         test.toldByASeed();
         test.check.end();
@@ -638,6 +639,51 @@ public final class RingEdgesTest extends Bench {
                 due("8 b(" + i + ", " + j + ")", x.b(i, j), table[i][j]);
             }
         }
+    }
+
+    /**
+     * Terms III: the sides of a third, (a, b), (b, c), (a, c), are neighbours or FENCES: at each CORNER's fan two fences
+     * next to one another have a third of their own, whose other side is of neighbours.
+     */
+    private void thirdsOfFans() {
+        for (int n = 5; n <= 9; n++) {
+            for (int corner = 0; corner < n; corner++) {
+                SeedBench x = new SeedBench();
+                fan(x, 1, n, corner);
+                due("29 seed(1)", x.seed(1), true);
+                int arrows = 0;
+                for (int i = 2; i < n - 2; i++) {
+                    int one = (corner + i) % n;
+                    int next = (corner + i + 1) % n;
+                    int lesser = Math.min(one, next);
+                    int greater = Math.max(one, next);
+                    int toLesser = placeOf(x, corner, lesser);
+                    int toGreater = placeOf(x, corner, greater);
+                    // The corner is b: from (a, b) to (b, c); it is a: from (a, c) to (a, b); c: from (b, c) to (a, c).
+                    boolean fromLesser = corner > lesser && corner < greater;
+                    int from = fromLesser ? toLesser : toGreater;
+                    int to = fromLesser ? toGreater : toLesser;
+                    due("29 an arrow of the fan at " + corner + " of " + n, x.b(from, to), 1);
+                    due("29 and back", x.b(to, from), -1);
+                    arrows += 2;
+                }
+                for (int i = 0; i < n - 3; i++) {
+                    for (int j = 0; j < n - 3; j++) {
+                        arrows -= Math.abs(x.b(i, j));
+                    }
+                }
+                due("29 no other arrows", arrows, 0);
+            }
+        }
+    }
+
+    private static int placeOf(SeedBench x, int a, int b) {
+        for (int i = 0; i < 6; i++) {
+            if (x.ringOf(1, 100 + i) == 100 * Math.min(a, b) + Math.max(a, b)) {
+                return i;
+            }
+        }
+        return NONE;
     }
 
     /** 29: false: it is none, or has ten CORNERS; and there is no such slot. */
